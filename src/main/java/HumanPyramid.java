@@ -465,7 +465,22 @@ public final class HumanPyramid {
             h = mixed(h, chance(5, m, 0));
             h = mixed(h, chance(5, m, 1));
         }
-        return mixedWithPlans(h);
+        h = mixed(h, top(0));
+        h = mixed(h, top(1));
+        h = mixed(h, most(0));
+        h = mixed(h, most(1));
+        h = mixed(h, clumsy());
+        h = mixed(h, down());
+        for (int what = 0; what < 3; what++) {
+            h = mixed(h, swap(what));
+        }
+        h = mixed(h, train(0));
+        h = mixed(h, train(1));
+        h = mixed(h, spare(NONE));
+        h = mixed(h, spare(0));
+        h = mixed(h, never());
+        h = mixed(h, years(7, 6, 0));
+        return mixed(h, years(7, 6, 1));
     }
 
     // ---- what the calls share
@@ -485,26 +500,6 @@ public final class HumanPyramid {
         h = mixed(h, was(a, 0));
         h = mixed(h, was(a, 1));
         return mixed(h, ask(a));
-    }
-
-    private long mixedWithPlans(long before) {
-        long h = before;
-        h = mixed(h, top(0));
-        h = mixed(h, top(1));
-        h = mixed(h, most(0));
-        h = mixed(h, most(1));
-        h = mixed(h, clumsy());
-        h = mixed(h, down());
-        for (int what = 0; what < 3; what++) {
-            h = mixed(h, swap(what));
-        }
-        h = mixed(h, train(0));
-        h = mixed(h, train(1));
-        h = mixed(h, spare(NONE));
-        h = mixed(h, spare(0));
-        h = mixed(h, never());
-        h = mixed(h, years(7, 6, 0));
-        return mixed(h, years(7, 6, 1));
     }
 
     private static long mixed(long h, long x) {
@@ -827,6 +822,7 @@ public final class HumanPyramid {
 
         private void applaud(Troupe troupe) {
             for (int a = 0; relief > 0 && a < troupe.size; a++) {
+                // who does not stand is not TIRED, so nobody needs to be left out
                 tired[a] = Math.max(0, tired[a] - relief);
             }
         }
@@ -874,7 +870,7 @@ public final class HumanPyramid {
             int whole = eighths / 8;
             switch (sort) {
                 case TREMBLING: return whole + 1;
-                case CALM: return Math.max(0, whole - 1);
+                case CALM: return whole > 0 ? whole - 1 : 0;
                 default: return whole;
             }
         }
