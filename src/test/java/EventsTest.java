@@ -106,6 +106,12 @@ final class EventsTest {
     HumanPyramid y = Due.told("s55a0");
     Due.due("one of nobody", y.event(0, 3, 1), 1);
     Due.due("sum(1)", y.sum(1), 0);
+    HumanPyramid z = Due.told(ALL);
+    Due.due("two beside each other", z.event(0, 10, 0) + z.event(0, 10, 3), 3);
+    // on 0: 4, 7, 9; on 3: 6, 8, 9
+    Due.due("sum(1)", z.sum(1), 7);
+    Due.due("tower(10, 0)", z.tower(10, 0), 3);
+    Due.due("stands(10, 5)", z.stands(10, 5), 5);
   }
 
   private static void applause() {
@@ -136,5 +142,10 @@ final class EventsTest {
     Due.due("one who stands stays", x.at(2, 1, 0), 2);
     Due.due("sum(0)", x.sum(0), 46);
     Due.due("sum(1)", x.sum(1), 0);
+    HumanPyramid y = Due.told("s55a0;s55a1;s55a2");
+    Due.due("two in one moment", y.event(2, 0, 0) + y.event(2, 0, 2), 3);
+    Due.due("tower(0, 0)", y.tower(0, 0), 1);
+    Due.due("stands(0, 1)", y.stands(0, 1), 1);
+    Due.due("tower(1, 0)", y.tower(1, 0), 3);
   }
 }

@@ -159,6 +159,18 @@ final class MomentsTest {
     // who falls in the moment of climbing is not up behind it
     Due.due("down() of crushed ones", Due.told("s11a0;s11a1;s99a4").down(), 7);
     Due.due("down() of one who comes last", Due.told("s11x0").down(), 0);
+    // 2 is up behind moment 0; later it is held back until 0 is so TIRED that climbing makes both FALL
+    HumanPyramid x = Due.told("t11a0;s19a1;s41a4");
+    for (int m = 4; m <= 19; m += 5) {
+      x.event(2, m, 2);
+      x.event(2, m + 1, 2);
+    }
+    for (int m = 1; m < 24; m++) {
+      Due.due("stands(" + m + ", 4)", x.stands(m, 4), -1);
+    }
+    Due.due("stands(0, 4)", x.stands(0, 4), 2);
+    Due.due("at(16, 2, 3)", x.at(16, 2, 3), 4);
+    Due.due("down() of one who was up behind moment 0 alone", x.down(), 0);
   }
 
   private static void clumsyOnes() {

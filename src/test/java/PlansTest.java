@@ -110,10 +110,20 @@ final class PlansTest {
     swap(x, 0, 1, 24);
     x.undo();
     swap(x, -1, -1, -1);
+    spare(x, 0, -1, -1);
     Due.due("train(1) of nobody", x.train(1), -1);
     Due.due("come(0, 1) of nobody", x.come(0, 1), -2);
     x.type('5');
     swap(x, 0, 1, 24);
+    spare(x, -1, -1, -1);
+    HumanPyramid y = Due.told("s55a0");
+    y.event(0, 3, 0);
+    spare(y, 1, 0, -1);
+    Due.due("come(0, 1)", y.come(0, 1), 23 - 3 + 1);
+    y.back();
+    y.event(1, 3, 0);
+    spare(y, 0, -1, -1);
+    Due.due("come(0, 1)", y.come(0, 1), 24);
   }
 
   private static void refused() {
