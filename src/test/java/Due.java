@@ -2,15 +2,21 @@
 final class Due {
   private static int wrong = 0;
   private static int looked = 0;
+  private static String sentence = "";
 
   private Due() {
+  }
+
+  /** The sentence of the document that what follows is about, told with every answer that is not as due. */
+  static void sentence(String words) {
+    sentence = "[" + words + "] ";
   }
 
   static void due(String call, long got, long want) {
     looked++;
     if (got != want) {
       wrong++;
-      System.out.println(call + " answered " + got + ", due is " + want);
+      System.out.println(sentence + call + " answered " + got + ", due is " + want);
     }
   }
 
