@@ -7,6 +7,7 @@ final class Promise18SwapTest {
     theFirstIsLess();
     theFirstPairAndTheLast();
     placesChangeAlone();
+    ofWhatIsToldAtTheTime();
     nothingIsSwapped();
     othersAreBad();
     Due.end();
@@ -68,6 +69,22 @@ final class Promise18SwapTest {
     swap("the sneezes stay", x, 0, 1, 24);
     x.event(0, 20, 1);
     swap("the sneezes stay", x, 0, 1, 21);
+  }
+
+  private static void ofWhatIsToldAtTheTime() {
+    Due.sentence("18: of the ACROBATS and EVENTS there are");
+    HumanPyramid x = Due.told("t51a0;s51a4");
+    swap("two", x, 0, 1, 24);
+    x.event(0, 20, 1);
+    swap("with a sneeze", x, 0, 1, 21);
+    x.back();
+    swap("without it", x, 0, 1, 24);
+    x.undo();
+    swap("with a FAULT", x, -1, -1, -1);
+    x.type('1');
+    swap("on the ground", x, 0, 1, 39);
+    x.wipe();
+    swap("none", x, -1, -1, -1);
   }
 
   private static void nothingIsSwapped() {

@@ -5,6 +5,7 @@ final class Promise19ComeTest {
     everyMoment();
     inPlaceOfOnesOwn();
     theFirstAndTheTenth();
+    ofWhatIsToldAtTheTime();
     nothingIsChanged();
     othersAreBad();
     Due.end();
@@ -59,6 +60,26 @@ final class Promise19ComeTest {
     for (int a = 0; a < 10; a++) {
       HumanPyramid x = Due.told(State.ten("c19x" + a));
       come("of ten", x, a, 0, 240);
+    }
+    // each of the others counts, with all that was told of one: on top stands one who trembles
+    for (int a = 0; a < 10; a++) {
+      come("of ten", Due.told(State.ten("t19a9")), a, 0, 240);
+      // who FALLS in 20 and lies until 22: the later one comes, the fewer are left
+      come("of ten", Due.told(State.ten("t15a9")), a, 0, 237);
+    }
+  }
+
+  private static void ofWhatIsToldAtTheTime() {
+    Due.sentence("19: of the ACROBATS and EVENTS there are");
+    for (int a = 0; a < 10; a++) {
+      HumanPyramid x = Due.told(State.TEN);
+      come("ten", x, a, 0, 240);
+      x.event(2, 0, 9);
+      come("with 9 held in 0", x, a, 0, 239);
+      x.back();
+      come("without", x, a, 0, 240);
+      x.undo();
+      Due.due("come(" + a + ", 0) with a FAULT", x.come(a, 0), -2);
     }
   }
 

@@ -6,6 +6,7 @@ final class Promise20TrainTest {
     nineAtMost();
     fromEightToNine();
     theFirstAndTheTenth();
+    ofWhatIsToldAtTheTime();
     nothingIsTrained();
     othersAreBad();
     Due.end();
@@ -65,6 +66,21 @@ final class Promise20TrainTest {
     Due.due("sum(0)", y.sum(0), 237);
     Due.due("train(0)", y.train(0), 9);
     Due.due("train(1)", y.train(1), 240);
+  }
+
+  private static void ofWhatIsToldAtTheTime() {
+    Due.sentence("20: of the ACROBATS and EVENTS there are");
+    HumanPyramid x = Due.told("t51a0;t59a1");
+    Due.due("train(1)", x.train(1), 42);
+    x.event(0, 20, 1);
+    Due.due("train(1) with a sneeze", x.train(1), 39);
+    x.back();
+    Due.due("train(1) without it", x.train(1), 42);
+    x.undo();
+    Due.due("train(0) with a FAULT", x.train(0), -1);
+    x.wipe();
+    Due.typeAll(x, "t59a1;t51a0");
+    Due.due("train(0)", x.train(0), 1);
   }
 
   private static void nothingIsTrained() {

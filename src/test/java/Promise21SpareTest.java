@@ -7,6 +7,7 @@ final class Promise21SpareTest {
     moreThanTwo();
     ofLikeOnesTheLeastRow();
     theFirstAndTheLast();
+    ofWhatIsToldAtTheTime();
     nothingIsSpared();
     othersAreBad();
     Due.end();
@@ -112,6 +113,29 @@ final class Promise21SpareTest {
       }
       spare(i + " alone", y, 1, i, -1);
     }
+  }
+
+  private static void ofWhatIsToldAtTheTime() {
+    Due.sentence("21: of the ACROBATS and EVENTS there are");
+    HumanPyramid x = sneezing(4);
+    spare("a sneeze", x, 1, 0, -1);
+    x.event(0, 12, 0);
+    spare("two", x, 2, 0, 1);
+    x.back();
+    spare("one", x, 1, 0, -1);
+    x.back();
+    spare("none", x, 0, -1, -1);
+    x.event(1, 4, 0);
+    spare("another in its place", x, 0, -1, -1);
+    x.back();
+    x.event(0, 4, 0);
+    x.undo();
+    spare("with a FAULT", x, 0, -1, -1);
+    x.type('1');
+    spare("at PLACE 1", x, 1, 0, -1);
+    x.wipe();
+    Due.typeAll(x, "t51a0");
+    spare("one who trembles", x, -1, -1, -1);
   }
 
   private static void nothingIsSpared() {

@@ -9,6 +9,7 @@ final class Promise27ChanceTest {
     byAMomentThatOneToo();
     byItself();
     eightEvents();
+    ofWhatIsToldAtTheTime();
     othersAreBad();
     Due.end();
   }
@@ -121,6 +122,28 @@ final class Promise27ChanceTest {
     chance(y, 15, 23, all - power, all);
     chance(y, 1, 23, all - 1, all);
     chance(y, 15, 16, 1, 16);
+  }
+
+  private static void ofWhatIsToldAtTheTime() {
+    Due.sentence("27: of the ACROBATS and EVENTS there are");
+    HumanPyramid x = Due.told("s55a0");
+    x.event(0, 5, 0);
+    chance(x, 4, 23, 1, 4);
+    x.event(0, 9, 0);
+    chance(x, 4, 23, 7, 16);
+    x.back();
+    x.event(1, 9, 0);
+    chance(x, 4, 23, 1, 4);
+    x.undo();
+    chance(x, 4, 23, 0, 1);
+    x.type('3');
+    chance(x, 4, 23, 1, 4);
+    x.wipe();
+    Due.typeAll(x, "t51a0");
+    chance(x, 4, 23, 1, 1);
+    Due.fill(x, 0, 0, 0, 2, 0);
+    x.read(0);
+    chance(x, 4, 2, 1, 4);
   }
 
   private static void othersAreBad() {

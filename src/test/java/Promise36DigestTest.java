@@ -85,6 +85,24 @@ final class Promise36DigestTest {
       digestOf(n + " bytes", () -> Due.told(State.TEN.substring(0, bytes)));
     }
     digestOf("one with eight sneezes", Promise36DigestTest::withSneezes);
+    // in the MOMENTS that it asks for, and beside them
+    for (int m = 0; m < 24; m++) {
+      int moment = m;
+      digestOf("a sneeze in " + m, () -> withASneeze(moment));
+    }
+    // the sixth of the EVENTS by SEED 7 (APPLAUSE in 1) keeps 0 from FALLING in 23, the seventh (in 4) makes one FALL
+    digestOf("three", () -> Due.told("t55a0;s55a1;s55a2"));
+    HumanPyramid x = Due.told("t55a0;s55a1;s55a2");
+    Due.due("years(7, 5, 1)", x.years(7, 5, 1), 3);
+    Due.due("years(7, 6, 1)", x.years(7, 6, 1), 2);
+    Due.due("years(7, 7, 1)", x.years(7, 7, 1), 3);
+  }
+
+  private static HumanPyramid withASneeze(int moment) {
+    HumanPyramid x = Due.told("s55a0;s55c1");
+    x.event(0, moment, 0);
+    x.seen(moment, 0, 0);
+    return x;
   }
 
   private static HumanPyramid withSneezes() {
