@@ -30,6 +30,8 @@ public final class HumanPyramid {
     private static final int FACTS = 4;
     private static final int UNKNOWN = -1;
     private static final int SUBSETS = 256;
+    private static final int LEAST_INT = 0x80000000;
+    private static final long LEAST_LONG = 0x8000000000000000L;
 
     /** Of a PLACE above the ground the left one of the two below it; the other one is the next. */
     private static final int[] LEFT_BELOW = {0, 0, 0, 0, 0, 1, 2, 4, 5, 7};
@@ -328,7 +330,7 @@ public final class HumanPyramid {
 
     public long chance(int c, int moment, int what) {
         if (!isWithin(c, SIXTEENTHS + 1) || !isWithin(moment, MOMENTS) || !isWithin(what, 2)) {
-            return Long.MIN_VALUE - BAD;
+            return LEAST_LONG - BAD;
         }
         long above = tumbles.chanceAbove(troupe, events, c, moment);
         long below = 1L << (4 * events.size);
@@ -387,12 +389,12 @@ public final class HumanPyramid {
 
     public int get(int s, int form, int i) {
         if (!isWithin(s, SHEETS) || !isWithin(form, FORMS)) {
-            return Integer.MIN_VALUE;
+            return LEAST_INT;
         }
         int fails = sheets[s].whatFails(form, i);
         if (fails != 0) {
             latestFinding = fails;
-            return Integer.MIN_VALUE;
+            return LEAST_INT;
         }
         return sheets[s].item(i);
     }

@@ -24,7 +24,12 @@ final class FaceTest {
     methods();
     fields();
     classesInside();
-    words(Files.readString(Path.of("src/main/java/HumanPyramid.java")));
+    String source = Files.readString(Path.of("src/main/java/HumanPyramid.java"));
+    signs(source);
+    String code = source.replaceAll("(?s)/\\*.*?\\*/", "").replaceAll("//[^\n]*", "");
+    words(code);
+    library(code);
+    lengths(source);
     Due.end();
   }
 
@@ -83,13 +88,17 @@ final class FaceTest {
     Due.holds("twelve classes at most", HumanPyramid.class.getDeclaredClasses().length <= 11);
     for (Class<?> inside : HumanPyramid.class.getDeclaredClasses()) {
       int is = inside.getModifiers();
+      int own = 0;
+      for (Field f : inside.getDeclaredFields()) {
+        own += Modifier.isStatic(f.getModifiers()) ? 0 : 1;
+      }
+      Due.holds(inside + " has some twenty fields at most", own <= 20);
       Due.holds(inside + " is static", Modifier.isStatic(is));
       Due.holds(inside + " is not open", !Modifier.isPublic(is) && !Modifier.isProtected(is));
     }
   }
 
-  private static void words(String source) {
-    String code = source.replaceAll("(?s)/\\*.*?\\*/", "").replaceAll("//[^\n]*", "");
+  private static void words(String code) {
     String[] never = {"\\bthrows?\\b", "\\btry\\b", "\\bcatch\\b", "\\bsynchronized\\b", "\\bassert\\b", "\\bpackage\\b",
         "Exact\\b", "\\bequals\\b", "\\bhashCode\\b", "\\btoString\\b", "\\bObject\\b", "\\bSystem\\.(?!arraycopy)",
         "->", "::", "\\bstatic \\{"};
@@ -100,10 +109,45 @@ final class FaceTest {
     while (m.find()) {
       Due.holds("import " + m.group(1), m.group(1).equals("java.util.Arrays"));
     }
+  }
+
+  private static void signs(String source) {
     for (int i = 0; i < source.length(); i++) {
       if (source.charAt(i) > 127) {
         Due.due("a sign beyond 127 at " + i, source.charAt(i), 0);
       }
     }
+  }
+
+  /** Of the library's classes only functions are listed, no constant such as Integer.MIN_VALUE. */
+  private static void library(String code) {
+    Pattern used = Pattern.compile("\\b(Integer|Long|Short|Byte|Character|Boolean|Math|Arrays|System|String)\\.(\\w+)(\\(?)");
+    Matcher m = used.matcher(code);
+    while (m.find()) {
+      String name = m.group(1) + "." + m.group(2);
+      boolean isNumbers = m.group(1).matches("Integer|Long|Math") && m.group(3).equals("(");
+      boolean isListed = Set.of("Arrays.copyOf", "Arrays.copyOfRange", "Arrays.fill", "System.arraycopy").contains(name);
+      Due.holds(name + " stands in rule 4", isNumbers || isListed);
+    }
+  }
+
+  /** A method begins on a line that ends with an opening brace, and ends with a closing one as far in. */
+  private static void lengths(String source) {
+    String[] lines = source.split("\n");
+    Pattern begins = Pattern.compile("^( {4}| {8})(?!private static final class)[\\w\\[\\]][\\w\\[\\] ]*\\(.*\\) \\{$");
+    int methods = 0;
+    for (int i = 0; i < lines.length; i++) {
+      Matcher m = begins.matcher(lines[i]);
+      if (!m.matches() || lines[i].trim().matches("(if|for|while|switch) .*")) {
+        continue;
+      }
+      methods++;
+      int end = i;
+      while (end < lines.length && !lines[end].equals(m.group(1) + "}")) {
+        end++;
+      }
+      Due.holds(lines[i].trim() + " has sixty lines at most", end - i <= 60);
+    }
+    Due.holds("methods were found: " + methods, methods > 36);
   }
 }
